@@ -1124,7 +1124,8 @@ public final class DawnHouse {
         private int waiting;
         private int begunBits;
         private int endedBits;
-        // What the LATES come to at least, with the STEPS that have begun so far.
+        // What the LATES come to at least: in any order, and with the STEPS that a run has begun so far.
+        private int floor;
         private int cost;
         // So many STEPS at the queue's head decided all that was begun so far; those behind had no say.
         private int decisive;
@@ -1151,7 +1152,6 @@ public final class DawnHouse {
         int findBest() {
             reckonSoonest(tables.spanEnd);
             queueByNumbers();
-            int floor = costAtLeast();
             int least = Integer.MAX_VALUE;
             boolean more = true;
             for (int n = 0; n < MAX_ORDERS && more; n++) {
@@ -1167,6 +1167,7 @@ public final class DawnHouse {
         }
 
         private void reckonSoonest(int[] landings) {
+            floor = 0;
             for (int k = 0; k < script.steps; k++) {
                 opensAt[k] = openingOf(k, landings);
                 if (work.isDone(k)) {
@@ -1176,6 +1177,7 @@ public final class DawnHouse {
                 } else {
                     soonest[k] = Math.min(NEVER, Math.max(opensAt[k], partsOpening(k)) + script.takes[k] - 1);
                 }
+                floor += costOf(k, soonest[k]);
             }
         }
 
@@ -1225,14 +1227,6 @@ public final class DawnHouse {
             return !work.isDone(k) && !work.isUnderWay(k);
         }
 
-        private int costAtLeast() {
-            int sum = 0;
-            for (int k = 0; k < script.steps; k++) {
-                sum += costOf(k, soonest[k]);
-            }
-            return sum;
-        }
-
         private int costOf(int k, int end) {
             return Math.max(0, end - script.due[k]) * script.weight[k];
         }
@@ -1260,7 +1254,7 @@ public final class DawnHouse {
         }
 
         private void startRun() {
-            cost = costAtLeast();
+            cost = floor;
             decisive = 0;
             begunBits = 0;
             for (int k = 0; k < script.steps; k++) {
