@@ -38,6 +38,7 @@ public final class DawnHousePromises {
         sureLateness();
         stepsAnswers();
         valuesOfSteps();
+        needsOfSteps();
         valuesThatWrap();
         sentOnceAndAgain();
         marksOfReaders();
@@ -195,6 +196,9 @@ public final class DawnHousePromises {
         fault(4, "part\u000ba takes 1=1;", 1, 4);
         fault(4, "part a1b2c3d4 takes 1=1;", 0, NONE);
         fault(4, "part a1b2c3d4e takes 1=1;", 1, 5);
+        fault(4, "part az09za takes 1=1; part z takes 1=az09za;", 0, NONE);
+        fault(4, "part `a takes 1=1;", 1, 5);
+        fault(4, "part {a takes 1=1;", 1, 5);
         fault(4, "part 1a takes 1=1;", 1, 5);
         fault(4, "part A takes 1=1;", 1, 5);
         fault(4, "part aB takes 1=1;", 1, 6);
@@ -524,6 +528,8 @@ public final class DawnHousePromises {
         due(10, "sent by new rights", x.sent(0, 0, 7), 8);
         due(10, "all together", x.sent(0, 0, NONE), 10);
         due(10, "the same rights", x.rights(0, 130), true);
+        due(10, "no rights", x.rights(0, 0), true);
+        due(10, "all rights", x.rights(0, 255), true);
     }
 
     private static void holding() {
@@ -605,6 +611,10 @@ public final class DawnHousePromises {
         due(13, "done", x.count(5), 3);
         due(13, "hosts 2", x.hosts(2), true);
         due(13, "hosts", x.count(3), 2);
+        due(13, "hosts 1", x.hosts(1), true);
+        due(13, "hosts", x.count(3), 1);
+        x.tick();
+        due(13, "one host works at the last", x.step(3, 8), 1);
     }
 
     private static void ticks() {
@@ -884,6 +894,37 @@ public final class DawnHousePromises {
         due(20, "most without one any more", x.value(0, 0), 0);
     }
 
+    private static void needsOfSteps() {
+        DawnHouse x = houseOf("part a takes 1=sum(0)+sum(1); part b takes 1=2; part c takes 1=a*sum(2)+b; report d takes 1 due 9 weight 1=c+sum(4)+sum(4);");
+        due(19, "tables of a", x.step(0, 4), 3);
+        due(19, "tables of b", x.step(1, 4), 0);
+        due(19, "tables of c", x.step(2, 4), 7);
+        due(19, "tables of d", x.step(3, 4), 23);
+        x.hosts(3);
+        x.land(1);
+        x.land(2);
+        x.land(4);
+        x.tick();
+        due(14, "a waits for one of two tables", x.step(0, 5), 0);
+        due(14, "b needs none", x.step(1, 5), 2);
+        x.tick();
+        due(14, "c waits for one of two parts", x.step(2, 5), 0);
+        x.land(0);
+        passTicks(x, 3);
+        due(14, "all are done", x.count(5), 4);
+        give(x, "report a takes 1 due 9 weight 1=7; part b takes 1=8;");
+        due(4, "read", x.read(), 0);
+        int[][] want = {{1, 1, 9, 1, 0}, {0, 1, 0, 0, 0}};
+        for (int k = 0; k < 2; k++) {
+            for (int what = 0; what <= 4; what++) {
+                due(19, "nothing is left of the text before", x.step(k, what), want[k][what]);
+            }
+        }
+        x.hosts(1);
+        passTicks(x, 2);
+        due(20, "nor of its code", x.value(0, 0) * 10 + x.value(1, 7), 78);
+    }
+
     private static void valuesThatWrap() {
         DawnHouse x = houseOf("part a takes 1=sum(0); part b takes 1=a*a*2; part c takes 1=b+b; part d takes 1=0-sum(1)-sum(1);");
         for (int n = 0; n < 40; n++) {
@@ -922,6 +963,7 @@ public final class DawnHousePromises {
         due(21, "no step", x.sent(2, 0, 0), 0);
         due(21, "no step", x.sent(-1, 0, NONE), 0);
         due(21, "no reader", x.sent(1, 2, 0), 0);
+        due(21, "no step, no reader", x.sent(9, 9, 0), 0);
         due(21, "no reader", x.sent(1, -1, NONE), 0);
         due(22, "the first goes, be it all 0", x.marks(1, 1), 1);
         x.row(0, 0, 4);
