@@ -1,6 +1,3 @@
-import java.nio.charset.StandardCharsets;
-import java.util.Arrays;
-
 /** Each promise of the document, by its number, worked out by hand. */
 public final class DawnHousePromises {
     private static final int NONE = DawnHouse.NONE;
@@ -62,30 +59,16 @@ public final class DawnHousePromises {
         due(promise, what, got ? 1 : 0, want ? 1 : 0);
     }
 
-    private static void give(DawnHouse x, String text) {
-        byte[] bytes = text.getBytes(StandardCharsets.ISO_8859_1);
-        int whole = (bytes.length + 19) / 20 * 20;
-        byte[] padded = Arrays.copyOf(bytes, whole);
-        for (int i = 0; i < whole; i += 20) {
-            x.feed(word(padded, i), word(padded, i + 4), word(padded, i + 8), word(padded, i + 12), word(padded, i + 16));
-        }
-        x.back(whole - bytes.length);
-    }
-
-    private static int word(byte[] b, int i) {
-        return (b[i] & 255) << 24 | (b[i + 1] & 255) << 16 | (b[i + 2] & 255) << 8 | b[i + 3] & 255;
-    }
-
     private static DawnHouse houseOf(String text) {
         DawnHouse x = new DawnHouse();
-        give(x, text);
+        Check.give(x, text);
         due(4, "read of " + text, x.read(), 0);
         return x;
     }
 
     private static void fault(int promise, String text, int fault, int place) {
         DawnHouse x = houseOf("part old takes 3 = 1;");
-        give(x, text);
+        Check.give(x, text);
         due(promise, "read of " + text, x.read(), fault);
         due(5, "place in " + text, x.place(), place);
         due(4, "steps after " + text, x.count(0), fault == 0 ? x.count(0) : 1);
@@ -93,16 +76,6 @@ public final class DawnHousePromises {
         if (fault != 0) {
             due(4, "the old step after " + text, x.step(0, 1), 3);
         }
-    }
-
-    private static void passTicks(DawnHouse x, int n) {
-        for (int i = 0; i < n; i++) {
-            x.tick();
-        }
-    }
-
-    private static String repeated(String s, int n) {
-        return s.repeat(n);
     }
 
     private static void newObject() {
@@ -160,7 +133,7 @@ public final class DawnHousePromises {
         DawnHouse x = new DawnHouse();
         due(3, "back 0 of none", x.back(0), 0);
         due(3, "back 1 of none", x.back(1), NONE);
-        give(x, "part a takes 1 = 1;");
+        Check.give(x, "part a takes 1 = 1;");
         due(3, "bytes", x.count(7), 19);
         due(3, "back -1", x.back(-1), NONE);
         due(3, "back least", x.back(Integer.MIN_VALUE), NONE);
@@ -168,10 +141,10 @@ public final class DawnHousePromises {
         due(3, "back most", x.back(Integer.MAX_VALUE), NONE);
         due(3, "bytes", x.count(7), 19);
         due(3, "back 3", x.back(3), 16);
-        give(x, " 2;");
+        Check.give(x, " 2;");
         due(3, "read", x.read(), 0);
         due(3, "count", x.count(0), 1);
-        give(x, "x");
+        Check.give(x, "x");
         due(3, "back all", x.back(1), 0);
         due(3, "read", x.read(), 0);
         due(3, "count", x.count(0), 0);
@@ -262,13 +235,13 @@ public final class DawnHousePromises {
 
     private static void roomFaults() {
         // Six TOKENS beside the E; the E has 4 and two for each sign behind it, or 1 and two.
-        String text400 = "part a takes 1=sum(0)" + repeated("+1", 195) + ";";
+        String text400 = "part a takes 1=sum(0)" + "+1".repeat(195) + ";";
         fault(4, text400, 0, NONE);
         fault(4, text400 + " ", 0, NONE);
         fault(4, text400 + " part", 2, text400.length() + 1);
         fault(4, text400 + " 1", 1, text400.length() + 1);
         fault(4, text400 + " ?", 1, text400.length() + 1);
-        String text401 = "part a takes 1=1" + repeated("+1", 197) + ";";
+        String text401 = "part a takes 1=1" + "+1".repeat(197) + ";";
         String head400 = text401.substring(0, text401.length() - 1);
         fault(4, text401, 2, head400.length());
         fault(4, head400, 1, head400.length());
@@ -344,13 +317,13 @@ public final class DawnHousePromises {
         due(4, "done", x.count(5), 1);
         due(4, "under way", x.count(4), 1);
         due(4, "marks", x.count(6), 1);
-        give(x, "part a takes 0=1;");
+        Check.give(x, "part a takes 0=1;");
         due(4, "read of a fault", x.read(), 5);
         due(4, "done", x.count(5), 1);
         due(4, "under way", x.count(4), 1);
         due(4, "marks", x.marks(0, 0), 1);
         due(4, "sent", x.sent(0, 0, 2), 5);
-        give(x, "report c takes 2 due 3 weight 1=most(0); part d takes 1=2;");
+        Check.give(x, "report c takes 2 due 3 weight 1=most(0); part d takes 1=2;");
         due(4, "read", x.read(), 0);
         due(4, "done", x.count(5), 0);
         due(4, "under way", x.count(4), 0);
@@ -366,7 +339,7 @@ public final class DawnHousePromises {
         due(4, "state", x.table(0, 0), 1);
         due(4, "span", x.table(1, 4), 7);
         due(4, "reads again", x.reads(0, 0), true);
-        passTicks(x, 2);
+        Check.ticked(x, 2);
         due(4, "sent of the new text", x.sent(0, 0, 2), 5);
         due(4, "marks of the new text", x.marks(0, 0), 1);
         due(4, "read of nothing", x.read(), 0);
@@ -375,7 +348,7 @@ public final class DawnHousePromises {
         DawnHouse y = houseOf("report a takes 5 due 9 weight 1=1; report b takes 1 due 1 weight 9=1;");
         y.plan();
         due(4, "order by a plan", y.order(0), 1);
-        give(y, "part a takes 1=1; part b takes 1=1;");
+        Check.give(y, "part a takes 1=1; part b takes 1=1;");
         y.read();
         due(4, "order: nothing is planned", y.order(0), 0);
         due(4, "order", y.order(1), 1);
@@ -384,12 +357,12 @@ public final class DawnHousePromises {
     private static void places() {
         DawnHouse x = new DawnHouse();
         due(5, "place", x.place(), NONE);
-        give(x, "part a takes 1=b;");
+        Check.give(x, "part a takes 1=b;");
         due(5, "place before read", x.place(), NONE);
         x.read();
         due(5, "place", x.place(), 15);
         due(5, "place again", x.place(), 15);
-        give(x, "part a takes 1=1;");
+        Check.give(x, "part a takes 1=1;");
         due(5, "place of the latest read", x.place(), 15);
         x.read();
         due(5, "place without a fault", x.place(), NONE);
@@ -442,7 +415,7 @@ public final class DawnHousePromises {
         due(8, "land", x.land(0), 1);
         due(8, "land", x.land(1), 1);
         due(8, "land", x.land(2), 1);
-        passTicks(x, 4);
+        Check.ticked(x, 4);
         due(8, "done", x.count(5), 5);
         due(8, "value", x.value(2, 1), 11);
         due(8, "land of a table that nothing needs", x.land(5), 1);
@@ -454,12 +427,12 @@ public final class DawnHousePromises {
         due(8, "b is not done", x.step(1, 5), 0);
         due(8, "c, by b, is not done", x.step(2, 5), 0);
         due(8, "d stays done", x.step(3, 5), 2);
-        passTicks(x, 2);
+        Check.ticked(x, 2);
         due(8, "value anew, of the new rows alone", x.value(2, 1), 15);
         due(8, "land without rows", x.land(0), 2);
         due(8, "rows", x.table(0, 1), 0);
         due(8, "all but d and e are undone", x.count(5), 2);
-        passTicks(x, 3);
+        Check.ticked(x, 3);
         due(8, "value anew", x.value(2, 1), 5);
         due(8, "times done", x.step(2, 7), 3);
         due(8, "times done", x.step(4, 7), 1);
@@ -470,7 +443,7 @@ public final class DawnHousePromises {
         x.hosts(2);
         x.land(0);
         x.land(1);
-        passTicks(x, 2);
+        Check.ticked(x, 2);
         due(8, "under way", x.count(4), 2);
         x.row(0, 0, 3);
         x.land(0);
@@ -549,7 +522,7 @@ public final class DawnHousePromises {
         due(11, "hold again", x.hold(0, true), false);
         x.row(0, 0, 4);
         x.land(0);
-        passTicks(x, 2);
+        Check.ticked(x, 2);
         due(11, "held: nothing goes", x.marks(0, 0), 0);
         due(11, "to another it does", x.marks(0, 1), 1);
         due(11, "no more", x.hold(0, false), true);
@@ -585,7 +558,7 @@ public final class DawnHousePromises {
         due(12, "no step", x.reads(-1, 0), false);
         due(12, "no reader", x.reads(1, 1), false);
         due(12, "no reader", x.reads(1, -1), false);
-        passTicks(x, 2);
+        Check.ticked(x, 2);
         due(12, "done", x.step(1, 5), 2);
         due(12, "reads", x.reads(1, 0), true);
         due(12, "nothing goes by that alone", x.marks(1, 0), 0);
@@ -630,11 +603,11 @@ public final class DawnHousePromises {
         x.tick();
         due(14, "c waits for its table", x.step(2, 5), 0);
         x.land(0);
-        passTicks(x, 19);
+        Check.ticked(x, 19);
         due(14, "c", x.step(2, 8), 19);
         x.tick();
         due(14, "c is done", x.step(2, 6), 24);
-        passTicks(x, 374);
+        Check.ticked(x, 374);
         due(14, "the last tick", x.tick(), 399);
         due(14, "beyond", x.tick(), NONE);
         due(14, "now", x.count(2), 399);
@@ -656,7 +629,7 @@ public final class DawnHousePromises {
         x.tick();
         due(14, "b is first", x.step(1, 5), 1);
         due(14, "a is not", x.step(0, 5), 0);
-        passTicks(x, 5);
+        Check.ticked(x, 5);
         due(14, "a", x.step(0, 6), 6);
         due(14, "c is last", x.step(2, 5), 0);
         x.tick();
@@ -697,7 +670,7 @@ public final class DawnHousePromises {
         DawnHouse x = houseOf("part a takes 1=1; report b takes 9 due 9 weight 1=1; part c takes 1=1;"
             + " report d takes 5 due 9 weight 1=sum(0); report e takes 1 due 9 weight 1=sum(0);");
         x.span(0, 4, 5);
-        passTicks(x, 2);
+        Check.ticked(x, 2);
         due(15, "a is done, b is under way", x.count(4) * 10 + x.count(5), 11);
         due(15, "plan", x.plan(), 1 + 2 + 7);
         // b ends at 10, then e at 11 and d at 16; a and b stand as early as they can.
@@ -757,7 +730,7 @@ public final class DawnHousePromises {
 
     private static void foreseenAtTheEnd() {
         DawnHouse x = houseOf("report a takes 2 due 399 weight 7=sum(0); part b takes 20=1; report c takes 1 due 390 weight 1=b;");
-        passTicks(x, 378);
+        Check.ticked(x, 378);
         due(17, "b", x.step(1, 6), 20);
         due(17, "c", x.step(2, 6), 21);
         x.span(0, 0, 398);
@@ -766,7 +739,7 @@ public final class DawnHousePromises {
         x.span(0, 0, 399);
         due(17, "a beyond 399", x.foreseen(0), 400);
         due(17, "late", x.plan(), 7);
-        passTicks(x, 21);
+        Check.ticked(x, 21);
         due(17, "at 399", x.foreseen(0), 400);
         x.land(0);
         due(17, "at 399, landed", x.foreseen(0), 400);
@@ -800,13 +773,13 @@ public final class DawnHousePromises {
         x.tick();
         due(18, "c is under way and may end at 4", x.sure(2), 0);
         due(18, "b at 1 can't end by 5 any more", x.sure(1), 1);
-        passTicks(x, 3);
+        Check.ticked(x, 3);
         due(18, "c is done at 4", x.sure(2), 0);
         x.land(0);
-        passTicks(x, 3);
+        Check.ticked(x, 3);
         due(18, "b is sure to be late", x.sure(1), 1);
         x.land(1);
-        passTicks(x, 2);
+        Check.ticked(x, 2);
         due(18, "b is done at 9, late", x.sure(1), 1);
         due(18, "c stays on time", x.sure(2), 0);
 
@@ -848,7 +821,7 @@ public final class DawnHousePromises {
         due(19, "not done", x.step(0, 5), 0);
         due(19, "no tick", x.step(0, 6), NONE);
         due(19, "times stay", x.step(0, 7), 1);
-        passTicks(x, 2);
+        Check.ticked(x, 2);
         due(19, "times", x.step(0, 7), 2);
         due(19, "its tick", x.step(0, 6), 4);
     }
@@ -863,7 +836,7 @@ public final class DawnHousePromises {
         x.row(0, 3, 6);
         x.land(0);
         due(20, "not done", x.value(0, 0), 0);
-        passTicks(x, 3);
+        Check.ticked(x, 3);
         due(20, "most below 0", x.value(0, 0), -5);
         due(20, "most", x.value(0, 3), 6);
         due(20, "most without one", x.value(0, 1), 0);
@@ -910,9 +883,9 @@ public final class DawnHousePromises {
         x.tick();
         due(14, "c waits for one of two parts", x.step(2, 5), 0);
         x.land(0);
-        passTicks(x, 3);
+        Check.ticked(x, 3);
         due(14, "all are done", x.count(5), 4);
-        give(x, "report a takes 1 due 9 weight 1=7; part b takes 1=8;");
+        Check.give(x, "report a takes 1 due 9 weight 1=7; part b takes 1=8;");
         due(4, "read", x.read(), 0);
         int[][] want = {{1, 1, 9, 1, 0}, {0, 1, 0, 0, 0}};
         for (int k = 0; k < 2; k++) {
@@ -921,7 +894,7 @@ public final class DawnHousePromises {
             }
         }
         x.hosts(1);
-        passTicks(x, 2);
+        Check.ticked(x, 2);
         due(20, "nor of its code", x.value(0, 0) * 10 + x.value(1, 7), 78);
     }
 
@@ -933,7 +906,7 @@ public final class DawnHousePromises {
         }
         x.land(0);
         x.land(1);
-        passTicks(x, 4);
+        Check.ticked(x, 4);
         long a = 40L * Integer.MAX_VALUE;
         due(20, "beyond an int", x.value(0, 0), a);
         due(20, "beyond a long", x.value(1, 0), a * a * 2);
@@ -952,7 +925,7 @@ public final class DawnHousePromises {
         x.row(0, 1, -9);
         x.row(0, 2, 100);
         x.land(0);
-        passTicks(x, 2);
+        Check.ticked(x, 2);
         due(21, "sent", x.sent(1, 0, 0), 4);
         due(21, "sent", x.sent(1, 0, 1), -9);
         due(21, "no right", x.sent(1, 0, 2), 0);
@@ -971,12 +944,12 @@ public final class DawnHousePromises {
         x.row(0, 2, 200);
         x.land(0);
         due(21, "what went stays", x.sent(1, 0, 0), 4);
-        passTicks(x, 2);
+        Check.ticked(x, 2);
         due(21, "nothing of its rights differs", x.marks(1, 0), 1);
         x.row(0, 0, -9);
         x.row(0, 1, 4);
         x.land(0);
-        passTicks(x, 2);
+        Check.ticked(x, 2);
         due(21, "it differs, though not all together", x.marks(1, 0), 2);
         due(21, "sent", x.sent(1, 0, 0), -9);
         due(21, "all together", x.sent(1, 0, NONE), -5);
@@ -1010,7 +983,7 @@ public final class DawnHousePromises {
         for (int n = 0; n < 4; n++) {
             x.row(0, 0, n / 2);
             x.land(0);
-            passTicks(x, 3);
+            Check.ticked(x, 3);
         }
         due(22, "a differed once", x.marks(1, 0), 2);
         due(22, "b did not", x.marks(2, 0), 1);
@@ -1048,8 +1021,8 @@ public final class DawnHousePromises {
         x.reader(255);
         x.reads(3, 0);
         x.reads(3, 1);
-        give(x, "part");
-        passTicks(x, 2);
+        Check.give(x, "part");
+        Check.ticked(x, 2);
         int[] want = {4, 2, 2, 3, 2, 2, 2, 4};
         for (int what = 0; what < 8; what++) {
             due(24, "count " + what, x.count(what), want[what]);
