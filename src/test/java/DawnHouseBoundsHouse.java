@@ -33,6 +33,7 @@ public final class DawnHouseBoundsHouse {
         anythingThatDiffers();
         heldAndNoMore();
         fullHouse();
+        none();
         newObject();
         spanRefused();
         rowRefused();
@@ -693,9 +694,12 @@ public final class DawnHouseBoundsHouse {
         }
     }
 
-    private static void newObject() {
+    private static void none() {
         sentence("public static final int NONE = -1;");
         due("NONE", DawnHouse.NONE, -1);
+    }
+
+    private static void newObject() {
         sentence("TICK 0; nothing is there.");
         DawnHouse x = new DawnHouse();
         int[] counts = {0, 0, 0, 1, 0, 0, 0, 0};
