@@ -26,6 +26,8 @@ public final class DawnHouse {
     private static final int MAX_NESTING = 6;
     private static final int MAX_TAKES = 20;
     private static final int MAX_WEIGHT = 100;
+    // Above what all LATES can come to, each times its weight.
+    private static final int NO_BOUND = MAX_STEPS * NEVER * MAX_WEIGHT + 1;
 
     private static final int SYNTAX = 1;
     private static final int ROOM = 2;
@@ -1144,7 +1146,7 @@ public final class DawnHouse {
         int endOf(int step) {
             reckonSoonest(tables.spanEnd);
             fillQueue(work.order);
-            runAhead(Integer.MAX_VALUE);
+            runAhead(NO_BOUND);
             return isBelow(step, MAX_STEPS) ? ends[step] : NEVER;
         }
 
@@ -1152,7 +1154,7 @@ public final class DawnHouse {
         int findBest() {
             reckonSoonest(tables.spanEnd);
             queueByNumbers();
-            int least = Integer.MAX_VALUE;
+            int least = NO_BOUND;
             boolean more = true;
             for (int n = 0; n < MAX_ORDERS && more; n++) {
                 runAhead(least);

@@ -14,7 +14,12 @@ import java.util.regex.Pattern;
  * document: TICK by TICK, all ROWS kept, every ORDER tried, an automaton for the grammar.
  */
 public final class DawnHouseAgainstModel {
-    private static final int RUNS = 700;
+    // What later calls answer is free.
+    private static final int MOST_CALLS = 512;
+    // A text of 2,000 bytes, its back(), read() and place().
+    private static final int CALLS_A_TEXT = 103;
+    private static final int CALLS_A_STEP = 79;
+    private static final int RUNS = 3000;
     private static final int TEXT_RUNS = 5000;
     private static final int PLAN_RUNS = 500;
     private static final int MOST_SHOWN = 20;
@@ -73,33 +78,33 @@ public final class DawnHouseAgainstModel {
             dice = new Dice(number);
         }
 
+        // Ends with a look at all, as far as calls are left: each run begins that with another STEP.
         int go() {
-            int length = dice.between(100, 400);
+            int spared = dice.between(0, 250);
             int horizon = dice.oneIn(6) ? 399 : dice.between(3, 40);
             if (dice.oneIn(8)) {
-                for (int n = dice.between(300, 399); n > 0; n--) {
-                    model.tick();
-                    house.tick();
+                for (int n = dice.oneIn(3) ? 399 : dice.between(300, 399); n > 0; n--) {
+                    check("tick", house.tick(), model.tick());
                 }
-                told.add("ticked to " + model.now);
+                spared = 0;
             }
             for (int r = dice.between(0, 6); r > 0; r--) {
                 int rights = dice.below(256);
                 check("reader " + rights, house.reader(rights), model.reader(rights));
             }
             giveText(false);
-            for (int i = 0; i < length && wrong < MOST_SHOWN; i++) {
+            for (int n = 0; n < MOST_CALLS && hasRoom(spared + 60) && wrong < MOST_SHOWN; n++) {
                 change(horizon);
                 if (dice.oneIn(3)) {
                     look();
                 }
             }
-            lookAtAll();
+            lookAtAll(dice.below(7));
             return calls;
         }
 
         int goTexts() {
-            for (int i = 0; i < 4; i++) {
+            for (int i = 0; i < 4 && hasRoom(CALLS_A_TEXT + 50); i++) {
                 giveText(!dice.oneIn(4));
                 check("count 0", house.count(0), model.count(0));
                 for (int k = -1; k <= 7; k++) {
@@ -159,8 +164,15 @@ public final class DawnHouseAgainstModel {
             }
         }
 
+        private boolean hasRoom(int more) {
+            return calls + more <= MOST_CALLS;
+        }
+
         private void check(String call, long got, long want) {
             calls++;
+            if (calls > MOST_CALLS) {
+                throw new IllegalStateException("a house is asked too often");
+            }
             told.add(call + " = " + want);
             if (got != want) {
                 wrong++;
@@ -249,7 +261,7 @@ public final class DawnHouseAgainstModel {
                     }
                     break;
                 case 15:
-                    if (dice.oneIn(15)) {
+                    if (dice.oneIn(10) && hasRoom(CALLS_A_TEXT)) {
                         giveText(dice.oneIn(3));
                     }
                     break;
@@ -274,21 +286,25 @@ public final class DawnHouseAgainstModel {
             check("count " + what, house.count(what), model.count(what));
         }
 
-        private void lookAtAll() {
-            for (int k = 0; k < 7; k++) {
-                check("foreseen " + k, house.foreseen(k), model.foreseen(k));
-                check("sure " + k, house.sure(k), model.sure(k));
-                for (int what = 0; what <= 8; what++) {
-                    check("step " + k + " " + what, house.step(k, what), model.step(k, what));
-                }
-                for (int g = 0; g < 8; g++) {
-                    check("value " + k + " " + g, house.value(k, g), model.value(k, g));
-                }
-                for (int r = 0; r < 6; r++) {
-                    check("marks " + k + " " + r, house.marks(k, r), model.marks(k, r));
-                    for (int g = -1; g < 8; g++) {
-                        check("sent " + k + " " + r + " " + g, house.sent(k, r, g), model.sent(k, r, g));
-                    }
+        private void lookAtAll(int first) {
+            for (int n = 0; n < 7 && hasRoom(CALLS_A_STEP); n++) {
+                lookAtStep((first + n) % 7);
+            }
+        }
+
+        private void lookAtStep(int k) {
+            check("foreseen " + k, house.foreseen(k), model.foreseen(k));
+            check("sure " + k, house.sure(k), model.sure(k));
+            for (int what = 0; what <= 8; what++) {
+                check("step " + k + " " + what, house.step(k, what), model.step(k, what));
+            }
+            for (int g = 0; g < 8; g++) {
+                check("value " + k + " " + g, house.value(k, g), model.value(k, g));
+            }
+            for (int r = 0; r < 6; r++) {
+                check("marks " + k + " " + r, house.marks(k, r), model.marks(k, r));
+                for (int g = -1; g < 8; g++) {
+                    check("sent " + k + " " + r + " " + g, house.sent(k, r, g), model.sent(k, r, g));
                 }
             }
         }
