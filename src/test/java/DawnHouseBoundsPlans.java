@@ -167,6 +167,8 @@ public final class DawnHouseBoundsPlans {
             + "report g takes 20 due 0 weight 100=sum(0);");
         w.span(0, 399, 399);
         due("as late as can be", w.plan(), 7 * 100 * 400);
+        Check.dueOrder("as late as can be", w, "0123456");
+        dueEnds("as late as can be", w, 400, 400, 400, 400, 400, 400, 400);
     }
 
     private static void lateOfDoneOnes() {
